@@ -891,6 +891,15 @@ public final class StreamRemuxer {
         }
     }
 
+    /** An element in which others stand, while it is read. */
+    private static final class Level {
+        int id;
+        int missingPlace;
+        int end;
+        int seen;
+        boolean tillCluster;
+    }
+
     /** Reads elements into a list of packets, up to the first FAULT. */
     private static final class ElementReader {
         private static final int SHORT = 1;
@@ -927,7 +936,9 @@ public final class StreamRemuxer {
         private static final int MOST_UINT_WIDTH = 8;
         private static final int MOST_ID_WIDTH = 4;
         private static final int MOST_LACED = 256;
-        private static final int DEEPEST = 8;
+        private static final int MOST_LEVELS = 5;
+        /** An element has two bytes at least, and is opened and closed once. */
+        private static final int MOST_STEPS = 2 * MOST_FILE_BYTES;
         private static final String DOCUMENT_NAME = "matroska";
 
         /** A row each: ID, that in which it stands, how often, form, least and most (number, or bytes). */
@@ -973,12 +984,20 @@ public final class StreamRemuxer {
         int clusters;
         int blocks;
         private final int[] lacedSizes = new int[MOST_LACED];
+        private final Level[] levels = new Level[MOST_LEVELS];
+        private int depth;
         private Row file;
         private PacketList target;
         private long trackNumber;
         private long clusterTime;
         private long bodySize;
         private int lacingAt;
+
+        ElementReader() {
+            for (int i = 0; i < levels.length; i++) {
+                levels[i] = new Level();
+            }
+        }
 
         void read(Row tape, int n, PacketList packets) {
             file = tape;
@@ -989,7 +1008,12 @@ public final class StreamRemuxer {
             blocks = 0;
             trackNumber = NONE;
             clusterTime = NONE;
-            readInside(FILE, n, 0, n, false, 0);
+            depth = 0;
+            int at = openLevel(FILE, n, 0, n);
+            for (int step = 0; step < MOST_STEPS && at != NONE && depth > 0; step++) {
+                Level inside = levels[depth - 1];
+                at = at < inside.end ? readElement(inside, at) : closeLevel(inside, at);
+            }
         }
 
         private int fail(int kind, int where) {
@@ -998,48 +1022,69 @@ public final class StreamRemuxer {
             return NONE;
         }
 
-        /** Reads what stands in an element, as far as its end: the place behind it, NONE: a FAULT. */
-        private int readInside(int parent, int missingPlace, int from, int end, boolean tillCluster, int depth) {
-            if (depth > DEEPEST) {
+        /** What follows stands in an element up to its end: the place of the first byte of that. */
+        private int openLevel(int id, int missingPlace, int from, int end) {
+            if (depth >= levels.length) {
                 return fail(ID, missingPlace);
             }
-            int seen = 0;
-            int at = from;
-            for (int step = 0; step < MOST_FILE_BYTES && at < end; step++) {
-                int id = readId(at, end);
-                if (id == NONE) {
-                    return NONE;
-                }
-                if (tillCluster && id == CLUSTER) {
-                    break;
-                }
-                int row = rowOf(id, parent);
-                if (row == NONE || !mayStand(id, seen)) {
-                    return fail(ID, at);
-                }
-                int body = readSize(at, at + markedWidth(file.at(at)), end, id);
-                if (body == NONE) {
-                    return NONE;
-                }
-                if (column(row, HOW_OFTEN) != OFTEN && (seen >> row & 1) != 0) {
-                    return fail(TWICE, at);
-                }
-                seen |= 1 << row;
-                boolean unknown = bodySize == NONE;
-                int bodyEnd = unknown ? end : body + (int) bodySize;
-                if (column(row, KIND) == MASTER) {
-                    beginMaster(id);
-                    at = readInside(id, at, body, bodyEnd, unknown && id == CLUSTER, depth + 1);
-                } else if (column(row, KIND) == BLOCK) {
-                    at = readBlock(id, at, body, bodyEnd);
-                } else {
-                    at = readLeaf(row, at, body, bodyEnd);
-                }
-                if (at == NONE) {
-                    return NONE;
-                }
+            Level opened = levels[depth];
+            opened.id = id;
+            opened.missingPlace = missingPlace;
+            opened.end = end;
+            opened.seen = 0;
+            opened.tillCluster = false;
+            depth++;
+            if (id == CLUSTER) {
+                opened.tillCluster = bodySize == NONE;
+                clusters++;
+                clusterTime = NONE;
             }
-            return lacksSome(parent, seen) ? fail(MISSING, missingPlace) : at;
+            return from;
+        }
+
+        /** What follows stands behind the element: its place, NONE if the element lacks something. */
+        private int closeLevel(Level inside, int at) {
+            if (lacksSome(inside.id, inside.seen)) {
+                return fail(MISSING, inside.missingPlace);
+            }
+            depth--;
+            return at;
+        }
+
+        /** Reads an element as far as others in it, or to its end: the place behind, NONE: a FAULT. */
+        private int readElement(Level inside, int at) {
+            int id = readId(at, inside.end);
+            if (id == NONE) {
+                return NONE;
+            }
+            if (inside.tillCluster && id == CLUSTER) {
+                return closeLevel(inside, at);
+            }
+            int row = rowOf(id, inside.id);
+            if (row == NONE || !mayStand(id, inside.seen)) {
+                return fail(ID, at);
+            }
+            int body = readSize(at, at + markedWidth(file.at(at)), inside.end, id);
+            if (body == NONE) {
+                return NONE;
+            }
+            if (column(row, HOW_OFTEN) != OFTEN && (inside.seen >> row & 1) != 0) {
+                return fail(TWICE, at);
+            }
+            inside.seen |= 1 << row;
+            int end = bodySize == NONE ? inside.end : body + (int) bodySize;
+            switch ((int) column(row, KIND)) {
+                case MASTER:
+                    return openLevel(id, at, body, end);
+                case UINT:
+                    return readUint(row, at, body, end);
+                case NAME:
+                    return isDocumentName(body, end) ? end : fail(VALUE, at);
+                case BLOCK:
+                    return readBlock(id, at, body, end);
+                default:
+                    return end - body >= column(row, LEAST) ? end : fail(VALUE, at);
+            }
         }
 
         private static long column(int row, int which) {
@@ -1087,13 +1132,6 @@ public final class StreamRemuxer {
         private static boolean isSeen(int id, int parent, int seen) {
             int row = rowOf(id, parent);
             return row != NONE && (seen >> row & 1) != 0;
-        }
-
-        private void beginMaster(int id) {
-            if (id == CLUSTER) {
-                clusters++;
-                clusterTime = NONE;
-            }
         }
 
         /** How many bytes a first byte tells by its highest bit 1; 0 if it has none. */
@@ -1153,18 +1191,6 @@ public final class StreamRemuxer {
                 return fail(SHORT, element);
             }
             return from + width;
-        }
-
-        /** Reads an element of a number or of bytes: the place behind it, NONE: a FAULT. */
-        private int readLeaf(int row, int element, int from, int end) {
-            switch ((int) column(row, KIND)) {
-                case UINT:
-                    return readUint(row, element, from, end);
-                case NAME:
-                    return isDocumentName(from, end) ? end : fail(VALUE, element);
-                default:
-                    return end - from >= column(row, LEAST) ? end : fail(VALUE, element);
-            }
         }
 
         private int readUint(int row, int element, int from, int end) {

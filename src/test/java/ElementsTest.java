@@ -13,6 +13,7 @@ public final class ElementsTest {
     private static final byte[] TIME = Checks.bytes("E7 81 64");
     private static final byte[] BLOCK = Checks.bytes("A3 86 81 0000 80 AABB");
     private static final byte[] CLUSTER = element("1F43B675", TIME, BLOCK);
+    private static final int[] BYTES_BEHIND = {0x00, 0x80, 0xEC, 0xFF};
     private static final byte[] VOID = Checks.bytes("EC 82 0505");
     /** Where the first element in SEGMENT stands, if its SIZE has one byte. */
     private static final int IN_SEGMENT = HEAD.length + 5;
@@ -77,10 +78,19 @@ public final class ElementsTest {
     }
 
     private static void readsWith(String what, int fault, int place, byte[]... parts) {
+        for (int behind : BYTES_BEHIND) {
+            byte[] tail = new byte[20];
+            Arrays.fill(tail, (byte) behind);
+            readsWithTail(what + " (" + behind + " behind)", fault, place, Checks.join(parts), tail);
+        }
+    }
+
+    /** What stands on the tape behind the file must not count. */
+    private static void readsWithTail(String what, int fault, int place, byte[] file, byte[] tail) {
         StreamRemuxer x = new StreamRemuxer();
         x.packet(0, 77);
-        int n = Checks.load(x, Checks.join(parts));
-        Checks.due(what + ": readElements", x.readElements(n), -1);
+        Checks.load(x, Checks.join(file, tail));
+        Checks.due(what + ": readElements", x.readElements(file.length), -1);
         Checks.due(what + ": FAULT", x.wrong(0), fault);
         Checks.due(what + ": place", x.wrong(1), place);
         Checks.due(what + ": CLUSTERS", x.count(5), 0);
@@ -319,6 +329,10 @@ public final class ElementsTest {
         readsWith("beyond that in which it stands", 1, IN_SEGMENT + 5, HEAD, segment(tooLong, VOID));
         readsWith("ID beyond it", 1, IN_SEGMENT + 5, HEAD, segment(Checks.bytes("1654AE6B 81 40"), VOID));
         readsWith("SIZE beyond it", 1, IN_SEGMENT + 5, HEAD, segment(Checks.bytes("1654AE6B 81 AE"), VOID));
+        readsWith("SIZE beyond it, 00 behind", 1, IN_SEGMENT + 5, HEAD,
+                segment(Checks.bytes("1654AE6B 81 AE")), Checks.bytes("00"));
+        readsWith("SIZE beyond it, UNKNOWN by what's behind", 1, IN_SEGMENT + 5, HEAD,
+                segment(Checks.bytes("1654AE6B 82 AE 7F")), Checks.bytes("FF"));
         readsWith("VOID behind SEGMENT", 1, IN_SEGMENT + TRACKS.length, HEAD, segment(TRACKS), Checks.bytes("EC"));
         readsWith("the highest SIZE", 1, 0, Checks.bytes("EC 08 7FFFFFFF"));
         StreamRemuxer x = new StreamRemuxer();
@@ -422,7 +436,7 @@ public final class ElementsTest {
     private static void valueFaults() {
         String[] inHead = {"4286 81 00", "4286 81 02", "42F7 80", "42F7 81 02", "42F2 81 03", "42F2 81 05",
             "42F3 81 07", "42F3 81 09", "4287 81 00", "4287 81 05", "4285 80", "4285 81 05", "4286 89 000000000000000001",
-            "4286 88 8000000000000001", "4286 88 4000000000000001", "4282 80", "4282 84 'webm'", "4282 88 'matroskb'",
+            "4286 88 8000000000000001", "4286 88 4000000000000001", "4282 80", "4282 84 'webm'", "4282 88 'matroskb'", "4282 88 'natroska'",
             "4282 89 'matroska' 00", "4282 87 'matrosk'"};
         for (String one : inHead) {
             readsWith(one, 5, 5, element("1A45DFA3", Checks.bytes(one)), segment(TRACKS));

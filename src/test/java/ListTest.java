@@ -127,7 +127,20 @@ public final class ListTest {
         x.clear();
         Checks.due("the tape's bytes", x.packet(length, 0), 1);
         Checks.due("LIST", Checks.list(x), "0:" + out);
+        tapeOfAnyLength();
         Checks.due("an empty OUT", new StreamRemuxer().turn(), 0);
+    }
+
+    private static void tapeOfAnyLength() {
+        StreamRemuxer x = new StreamRemuxer();
+        Checks.addPacket(x, Checks.ramp(13, 3), 0);
+        Checks.due("41 bytes", x.pages(1, 1, 1), 41);
+        x.turn();
+        for (int length = 61; length <= 5981; length += 20) {
+            Checks.due("feed up to " + length, x.feed(1, 2, 3, 4, 5), length);
+        }
+        Checks.due("feed up to 6,001", x.feed(1, 2, 3, 4, 5), -1);
+        Checks.due("the tape stays", x.count(3), 5981);
     }
 
     private static void askingBeyond() {
@@ -150,6 +163,12 @@ public final class ListTest {
             Checks.due("wrong(" + what + ")", x.wrong(what), -1);
         }
         Checks.due("wrong(2)", x.wrong(2), -1);
+        x.packet(0, 5);
+        Checks.addPacket(x, Checks.ramp(2, 9), 6);
+        Checks.due("octet(0, 3) is not the next one's", x.octet(0, 3), -1);
+        Checks.due("octet(1, 0) is not the next one's", x.octet(1, 0), -1);
+        Checks.due("octet(2, -1) is not that of one ahead", x.octet(2, -1), -1);
+        Checks.due("octet(2, 1)", x.octet(2, 1), 16);
         Checks.due("out(-1)", x.out(-1), -1);
         Checks.due("out behind the last", x.out(x.count(2)), -1);
         Checks.due("out(max)", x.out(Integer.MAX_VALUE), -1);
