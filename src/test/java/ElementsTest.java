@@ -309,6 +309,7 @@ public final class ElementsTest {
         readsBlock("lace 1", "100:0102 -1: -1:03", "81 0000 02 02 0200 010203");
         readsBlock("lace 1 of one", "100:0102", "81 0000 02 00 0102");
         readsBlock("lace 2", "100:01 -1:02 -1:03", "81 0000 04 02 010203");
+        readsBlock("lace 2 of one", "100:0102", "81 0000 04 00 0102");
         readsBlock("lace 2 of empty ones", "100: -1:", "81 0000 04 01");
         readsBlock("lace 3", "100:0102 -1: -1:03 -1:04", "81 0000 06 03 82 BD C0 01020304");
         readsBlock("lace 3 of one", "100:0102", "81 0000 06 00 0102");
@@ -493,6 +494,7 @@ public final class ElementsTest {
         StreamRemuxer x = reads("64 packets", 64, HEAD, segment(TRACKS, cluster(Checks.bytes("A3 85 81 0000 04 3F"))));
         Checks.due("TIME of the last", x.time(63), -1);
         readsBlockWith("packet 65", 6, IN_CLUSTER + TIME.length + 7, "A3 85 81 0000 04 3F A3 84 81 0000 00");
+        readsBlockWith("256 packets", 6, IN_CLUSTER + TIME.length, "A3 85 81 0000 04 FF");
         readsBlockWith("256 packets, wrong", 5, IN_CLUSTER + TIME.length, "A3 86 81 0000 04 FF 01");
         int before = HEAD.length + 6 + TRACKS.length + 6 + TIME.length;
         byte[] most = element("A3", Checks.bytes("81 0000 00"), new byte[2400]);

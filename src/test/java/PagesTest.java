@@ -163,6 +163,10 @@ public final class PagesTest {
         Checks.due("a TIME below one ahead", x.pages(1, 1, 1), -1);
         Checks.due("OUT stays", Checks.out(x), before);
         x.clear();
+        x.packet(0, 5);
+        x.packet(0, 4);
+        Checks.due("a TIME below the first", x.pages(1, 1, 1), -1);
+        x.clear();
         Checks.due("the LIST is empty again", x.pages(1, 1, 1), -1);
         Checks.due("OUT stays", Checks.out(x), before);
     }
