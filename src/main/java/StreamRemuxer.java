@@ -1010,7 +1010,7 @@ public final class StreamRemuxer {
             clusterTime = NONE;
             depth = 0;
             int at = openLevel(FILE, n, 0, n);
-            for (int step = 0; step < MOST_STEPS && at != NONE && depth > 0; step++) {
+            for (int step = 0; step < MOST_STEPS && at != NONE && depth > 0 && depth <= levels.length; step++) {
                 Level inside = levels[depth - 1];
                 at = at < inside.end ? readElement(inside, at) : closeLevel(inside, at);
             }

@@ -1,5 +1,5 @@
-/** Elements made by hand, as the document tells them. */
-final class ElementFiles {
+/** Elements made by hand, as the document tells them, for the tests that read them. */
+class ElementFiles {
     static final byte[] NAME = Checks.bytes("4282 88 'matroska'");
     static final byte[] HEAD = element("1A45DFA3", NAME);
     static final byte[] NUMBER = Checks.bytes("D7 81 01");
@@ -18,12 +18,15 @@ final class ElementFiles {
     static final byte[] OPEN_CLUSTER = Checks.bytes("1F43B675 FF");
     /** Where the first element in SEGMENT stands, if its SIZE has one byte. */
     static final int IN_SEGMENT = HEAD.length + 5;
-    /** Where the first element in a first CLUSTER behind TRACKS stands. */
-    static final int IN_CLUSTER = IN_SEGMENT + TRACKS.length + 5;
+    /** Where what follows TRACKS stands, if they are the first in it. */
+    static final int BEHIND_TRACKS = IN_SEGMENT + TRACKS.length;
+    /** Where the first element in a CLUSTER behind TRACKS stands. */
+    static final int IN_CLUSTER = BEHIND_TRACKS + 5;
     /** Where the first block of cluster() stands. */
     static final int FIRST_BLOCK = IN_CLUSTER + TIME.length;
 
-    private ElementFiles() {
+    static byte[] bytes(String told) {
+        return Checks.bytes(told);
     }
 
     static byte[] element(String id, byte[]... parts) {

@@ -1,21 +1,8 @@
 import java.util.Arrays;
 
 /** Promise 8: each FAULT of elements, its place, and which comes first. */
-public final class ElementsFaultTest {
-    private static final byte[] HEAD = ElementFiles.HEAD;
-    private static final byte[] NAME = ElementFiles.NAME;
-    private static final byte[] TRACK = ElementFiles.TRACK;
-    private static final byte[] TRACKS = ElementFiles.TRACKS;
-    private static final byte[] INFO = ElementFiles.INFO;
-    private static final byte[] CLUSTER = ElementFiles.CLUSTER;
-    private static final byte[] BLOCK = ElementFiles.BLOCK;
-    private static final byte[] TIME = ElementFiles.TIME;
-    private static final byte[] VOID = ElementFiles.VOID;
-    private static final byte[] EMPTY_BLOCK = Checks.bytes("A3 84 81 0000 00");
-    private static final int IN_SEGMENT = ElementFiles.IN_SEGMENT;
-    private static final int BEHIND_TRACKS = IN_SEGMENT + TRACKS.length;
-    private static final int IN_CLUSTER = ElementFiles.IN_CLUSTER;
-    private static final int FIRST_BLOCK = ElementFiles.FIRST_BLOCK;
+public final class ElementsFaultTest extends ElementFiles {
+    private static final byte[] EMPTY_BLOCK = bytes("A3 84 81 0000 00");
     private static final int[] BYTES_BEHIND = {0x00, 0x80, 0xEC, 0xFF};
 
     public static void main(String[] args) {
@@ -44,22 +31,6 @@ public final class ElementsFaultTest {
         missingAtFileEnd();
         missingComesLast();
         Checks.end(8);
-    }
-
-    private static byte[] element(String id, byte[]... parts) {
-        return ElementFiles.element(id, parts);
-    }
-
-    private static byte[] segment(byte[]... parts) {
-        return ElementFiles.segment(parts);
-    }
-
-    private static byte[] cluster(byte[]... parts) {
-        return ElementFiles.cluster(parts);
-    }
-
-    private static byte[] bytes(String told) {
-        return Checks.bytes(told);
     }
 
     /** What stands on the tape behind the file must not count. */
@@ -93,7 +64,7 @@ public final class ElementsFaultTest {
         for (int n = HEAD.length + 1; n < whole.length; n++) {
             readsWith("SEGMENT cut to " + (n - HEAD.length), 1, HEAD.length, Arrays.copyOf(whole, n));
         }
-        byte[] open = Checks.join(HEAD, ElementFiles.OPEN_SEGMENT, TRACKS);
+        byte[] open = Checks.join(HEAD, OPEN_SEGMENT, TRACKS);
         for (int n = 1; n < CLUSTER.length; n++) {
             readsWith("CLUSTER cut to " + n, 1, open.length, open, Arrays.copyOf(CLUSTER, n));
         }
@@ -106,12 +77,12 @@ public final class ElementsFaultTest {
         readsWith("in SEGMENT", 1, IN_SEGMENT, HEAD, segment(Arrays.copyOf(TRACKS, TRACKS.length - 1)), VOID);
         readsWith("in INFO", 1, IN_SEGMENT + 5, HEAD, segment(element("1549A966", bytes("2AD7B1 82 01")), TRACKS));
         readsWith("in TRACKS", 1, IN_SEGMENT + 5, HEAD, segment(bytes("1654AE6B 83 AE 82 EC"), VOID));
-        readsWith("in AE", 1, IN_SEGMENT + 7, HEAD, segment(ElementFiles.tracks(bytes("D7 82 01")), VOID));
+        readsWith("in AE", 1, IN_SEGMENT + 7, HEAD, segment(tracks(bytes("D7 82 01")), VOID));
         readsWith("in CLUSTER", 1, FIRST_BLOCK, HEAD, segment(TRACKS, cluster(bytes("A3 85 81 0000 00")), VOID));
         readsWith("in A0", 1, FIRST_BLOCK + 2, HEAD,
                 segment(TRACKS, cluster(element("A0", bytes("A1 85 81 0000 00")))));
         readsWith("in a CLUSTER of UNKNOWN SIZE", 1, FIRST_BLOCK, HEAD,
-                segment(TRACKS, ElementFiles.OPEN_CLUSTER, TIME, bytes("A3 85 81 0000 00")), VOID);
+                segment(TRACKS, OPEN_CLUSTER, TIME, bytes("A3 85 81 0000 00")), VOID);
         readsWith("an ID", 1, IN_SEGMENT + 5, HEAD, segment(bytes("1654AE6B 81 40"), VOID));
         readsWith("a SIZE", 1, IN_SEGMENT + 5, HEAD, segment(bytes("1654AE6B 81 AE"), VOID));
         readsWith("a SIZE, 00 behind", 1, IN_SEGMENT + 5, HEAD, segment(bytes("1654AE6B 81 AE")), bytes("00"));
@@ -158,7 +129,7 @@ public final class ElementsFaultTest {
             readsWith(what + "TRACKS", 2, IN_SEGMENT + 5, HEAD, segment(element("1654AE6B", made)));
         }
         if (!home.equals("AE")) {
-            readsWith(what + "AE", 2, IN_SEGMENT + 7, HEAD, segment(ElementFiles.tracks(made)));
+            readsWith(what + "AE", 2, IN_SEGMENT + 7, HEAD, segment(tracks(made)));
         }
         if (!home.equals("CLUSTER")) {
             readsWith(what + "CLUSTER", 2, IN_CLUSTER, HEAD, segment(TRACKS, element("1F43B675", made)));
@@ -221,16 +192,16 @@ public final class ElementsFaultTest {
 
     private static void idInUnknownCluster() {
         Checks.of(8, "in a CLUSTER of UNKNOWN SIZE any that isn't told for CLUSTERS but 1F43B675 in the SEGMENT");
-        byte[] open = Checks.join(ElementFiles.OPEN_CLUSTER, TIME, BLOCK);
+        byte[] open = Checks.join(OPEN_CLUSTER, TIME, BLOCK);
         int behind = BEHIND_TRACKS + open.length;
         byte[][] others = {INFO, TRACKS, HEAD,
                 segment(TRACKS), bytes("BF 80"), bytes("A1 84 81 0000 00"), bytes("9B 80")};
         for (byte[] other : others) {
             readsWith(Checks.hex(other), 2, behind, HEAD, segment(TRACKS, open, other));
-            readsWith(Checks.hex(other), 2, behind, HEAD, ElementFiles.OPEN_SEGMENT, TRACKS, open, other);
+            readsWith(Checks.hex(other), 2, behind, HEAD, OPEN_SEGMENT, TRACKS, open, other);
         }
         readsWith("1F43B675 in A0", 2, FIRST_BLOCK + 2, HEAD,
-                segment(TRACKS, ElementFiles.OPEN_CLUSTER, TIME, element("A0", CLUSTER)));
+                segment(TRACKS, OPEN_CLUSTER, TIME, element("A0", CLUSTER)));
         readsWith("1F43B675 in a CLUSTER of known SIZE", 2, FIRST_BLOCK, HEAD, segment(TRACKS, cluster(CLUSTER)));
         readsWith("half an ID", 1, behind, HEAD, segment(TRACKS, open, bytes("1F43")));
         readsWith("the next one's SIZE", 3, behind, HEAD, segment(TRACKS, open, bytes("1F43B675 00")));
@@ -328,7 +299,7 @@ public final class ElementsFaultTest {
         String[] inTrack = {"D7 81 01", "83 81 02", "86 81 41", "73C5 81 01", "9C 81 00"};
         for (String one : inTrack) {
             byte[] made = bytes(one);
-            readsWith(one, 4, IN_SEGMENT + 7 + made.length, HEAD, segment(ElementFiles.tracks(made, made)));
+            readsWith(one, 4, IN_SEGMENT + 7 + made.length, HEAD, segment(tracks(made, made)));
         }
         readsWith("E7", 4, FIRST_BLOCK, HEAD, segment(TRACKS, cluster(TIME)));
         readsWith("E7 behind a block", 4, FIRST_BLOCK + BLOCK.length, HEAD, segment(TRACKS, cluster(BLOCK, TIME)));
@@ -412,14 +383,14 @@ public final class ElementsFaultTest {
         readsWith("TRACKS, nothing", 7, HEAD.length, HEAD, segment());
         readsWith("AE", 7, IN_SEGMENT, HEAD, segment(element("1654AE6B", VOID)));
         readsWith("AE, nothing", 7, IN_SEGMENT, HEAD, segment(element("1654AE6B"), TRACKS));
-        byte[] number = ElementFiles.NUMBER;
-        byte[] type = ElementFiles.TYPE;
-        byte[] codec = ElementFiles.CODEC;
+        byte[] number = NUMBER;
+        byte[] type = TYPE;
+        byte[] codec = CODEC;
         byte[] others = bytes("73C5 81 01 9C 81 00");
-        readsWith("D7", 7, IN_SEGMENT + 5, HEAD, segment(ElementFiles.tracks(type, codec, others)));
-        readsWith("83", 7, IN_SEGMENT + 5, HEAD, segment(ElementFiles.tracks(number, codec, others)));
-        readsWith("86", 7, IN_SEGMENT + 5, HEAD, segment(ElementFiles.tracks(number, type, others)));
-        readsWith("all three", 7, IN_SEGMENT + 5, HEAD, segment(ElementFiles.tracks()));
+        readsWith("D7", 7, IN_SEGMENT + 5, HEAD, segment(tracks(type, codec, others)));
+        readsWith("83", 7, IN_SEGMENT + 5, HEAD, segment(tracks(number, codec, others)));
+        readsWith("86", 7, IN_SEGMENT + 5, HEAD, segment(tracks(number, type, others)));
+        readsWith("all three", 7, IN_SEGMENT + 5, HEAD, segment(tracks()));
     }
 
     private static void missingTime() {
@@ -427,9 +398,9 @@ public final class ElementsFaultTest {
         readsWith("in a CLUSTER", 7, BEHIND_TRACKS, HEAD, segment(TRACKS, element("1F43B675", VOID)));
         readsWith("in the second", 7, BEHIND_TRACKS + CLUSTER.length, HEAD,
                 segment(TRACKS, CLUSTER, element("1F43B675")));
-        readsWith("in one of UNKNOWN SIZE", 7, BEHIND_TRACKS, HEAD, segment(TRACKS, ElementFiles.OPEN_CLUSTER));
+        readsWith("in one of UNKNOWN SIZE", 7, BEHIND_TRACKS, HEAD, segment(TRACKS, OPEN_CLUSTER));
         readsWith("in one of UNKNOWN SIZE, another behind", 7, BEHIND_TRACKS, HEAD,
-                segment(TRACKS, ElementFiles.OPEN_CLUSTER, bytes("1F43B675 00")));
+                segment(TRACKS, OPEN_CLUSTER, bytes("1F43B675 00")));
         readsWith("ahead of A3", 7, IN_CLUSTER, HEAD, segment(TRACKS, element("1F43B675", BLOCK, TIME)));
         readsWith("ahead of a wrong A3", 7, IN_CLUSTER, HEAD, segment(TRACKS, element("1F43B675", bytes("A3 80"))));
         readsWith("of another CLUSTER", 7, IN_CLUSTER + CLUSTER.length, HEAD,

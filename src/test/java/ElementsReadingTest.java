@@ -1,14 +1,8 @@
 import java.util.Arrays;
 
 /** Promise 8: elements read, their lengths, blocks and laces, and what they are read to. */
-public final class ElementsReadingTest {
-    private static final byte[] HEAD = ElementFiles.HEAD;
-    private static final byte[] TRACKS = ElementFiles.TRACKS;
-    private static final byte[] CLUSTER = ElementFiles.CLUSTER;
-    private static final byte[] BLOCK = ElementFiles.BLOCK;
-    private static final byte[] TIME = ElementFiles.TIME;
-    private static final byte[] VOID = ElementFiles.VOID;
-    private static final byte[] INFO_THRICE = Checks.join(ElementFiles.INFO, ElementFiles.INFO, ElementFiles.INFO);
+public final class ElementsReadingTest extends ElementFiles {
+    private static final byte[] INFO_THRICE = Checks.join(INFO, INFO, INFO);
     private static final byte[] WHOLE = Checks.join(HEAD, segment(TRACKS, CLUSTER));
 
     public static void main(String[] args) {
@@ -37,22 +31,6 @@ public final class ElementsReadingTest {
         timesOfPackets();
         readingAgain();
         Checks.end(8);
-    }
-
-    private static byte[] element(String id, byte[]... parts) {
-        return ElementFiles.element(id, parts);
-    }
-
-    private static byte[] segment(byte[]... parts) {
-        return ElementFiles.segment(parts);
-    }
-
-    private static byte[] cluster(byte[]... parts) {
-        return ElementFiles.cluster(parts);
-    }
-
-    private static byte[] bytes(String told) {
-        return Checks.bytes(told);
     }
 
     private static StreamRemuxer reads(String what, String list, byte[]... parts) {
@@ -85,8 +63,8 @@ public final class ElementsReadingTest {
     }
 
     private static void blockIsWrong(String what, String block) {
-        faultIs(what, 5, ElementFiles.FIRST_BLOCK, HEAD, segment(TRACKS, cluster(element("A3", bytes(block)))));
-        faultIs(what + ", A1", 5, ElementFiles.FIRST_BLOCK + 2, HEAD,
+        faultIs(what, 5, FIRST_BLOCK, HEAD, segment(TRACKS, cluster(element("A3", bytes(block)))));
+        faultIs(what + ", A1", 5, FIRST_BLOCK + 2, HEAD,
                 segment(TRACKS, cluster(element("A0", element("A1", bytes(block))))));
     }
 
@@ -197,15 +175,15 @@ public final class ElementsReadingTest {
             reads(length + " bytes", "", inInfo("2AD7B1 8" + length + zeros + "01"));
             zeros += "00";
         }
-        faultIs("9 bytes", 5, ElementFiles.IN_SEGMENT + 5, inInfo("2AD7B1 89" + zeros + "01"));
-        faultIs("no byte is 0", 5, ElementFiles.IN_SEGMENT + 5, inInfo("2AD7B1 80"));
-        reads("no byte is 0", "", HEAD, segment(ElementFiles.tracks(ElementFiles.NUMBER, ElementFiles.TYPE,
-                ElementFiles.CODEC, bytes("9C 80"))));
+        faultIs("9 bytes", 5, IN_SEGMENT + 5, inInfo("2AD7B1 89" + zeros + "01"));
+        faultIs("no byte is 0", 5, IN_SEGMENT + 5, inInfo("2AD7B1 80"));
+        reads("no byte is 0", "", HEAD, segment(tracks(NUMBER, TYPE,
+                CODEC, bytes("9C 80"))));
         reads("2 to the 62 less 1", "", inInfo("2AD7B1 88 3FFFFFFFFFFFFFFF"));
         String[] above = {"4000000000000000", "4000000000000001", "7FFFFFFFFFFFFFFF", "8000000000000000",
             "8000000000000001", "FFFFFFFFFFFFFFFF"};
         for (String one : above) {
-            faultIs(one, 5, ElementFiles.IN_SEGMENT + 5, inInfo("2AD7B1 88" + one));
+            faultIs(one, 5, IN_SEGMENT + 5, inInfo("2AD7B1 88" + one));
         }
     }
 
@@ -214,22 +192,22 @@ public final class ElementsReadingTest {
         String[] told = {"EC 80", "EC 81 00", "EC 85 1F43B675FF", "EC 4003 A38000", "EC 82 EC7F"};
         for (String one : told) {
             byte[] v = bytes(one);
-            byte[] head = element("1A45DFA3", v, ElementFiles.NAME, v, v);
+            byte[] head = element("1A45DFA3", v, NAME, v, v);
             byte[] info = element("1549A966", v, bytes("2AD7B1 81 01"), v);
-            byte[] track = element("AE", v, ElementFiles.NUMBER, v, ElementFiles.TYPE, ElementFiles.CODEC, v);
+            byte[] track = element("AE", v, NUMBER, v, TYPE, CODEC, v);
             byte[] group = element("A0", v, bytes("A1 84 81 0001 00"), v);
             StreamRemuxer x = reads(one, "100:AABB 101:", v, v, head, v, segment(v, info, v,
                     element("1654AE6B", v, track, v), v, element("1F43B675", v, TIME, v, BLOCK, v, group, v), v), v, v);
             Checks.due("CLUSTERS", x.count(5), 1);
             Checks.due("blocks", x.count(6), 2);
-            reads(one + ", UNKNOWN", "100:AABB 100:AABB", HEAD, ElementFiles.OPEN_SEGMENT, v, TRACKS, v,
-                    ElementFiles.OPEN_CLUSTER, v, TIME, v, BLOCK, v, CLUSTER, v);
+            reads(one + ", UNKNOWN", "100:AABB 100:AABB", HEAD, OPEN_SEGMENT, v, TRACKS, v,
+                    OPEN_CLUSTER, v, TIME, v, BLOCK, v, CLUSTER, v);
         }
     }
 
     private static void headReads(String told) {
-        reads(told, "", element("1A45DFA3", bytes(told), ElementFiles.NAME), segment(TRACKS));
-        reads(told, "", element("1A45DFA3", ElementFiles.NAME, bytes(told)), segment(TRACKS));
+        reads(told, "", element("1A45DFA3", bytes(told), NAME), segment(TRACKS));
+        reads(told, "", element("1A45DFA3", NAME, bytes(told)), segment(TRACKS));
     }
 
     private static void headElements() {
@@ -246,7 +224,7 @@ public final class ElementsReadingTest {
             "4285 80", "4285 81 00", "4285 81 05", "4286 89 000000000000000001", "4286 88 8000000000000001",
             "4286 88 4000000000000001", "4285 82 0101"};
         for (String one : wrong) {
-            faultIs(one, 5, 5, element("1A45DFA3", bytes(one), ElementFiles.NAME), segment(TRACKS));
+            faultIs(one, 5, 5, element("1A45DFA3", bytes(one), NAME), segment(TRACKS));
         }
         String[] names = {"4282 80", "4282 84 'webm'", "4282 87 'matrosk'", "4282 89 'matroska' 00",
             "4282 88 'matroskA'",
@@ -263,8 +241,8 @@ public final class ElementsReadingTest {
         for (String one : right) {
             reads(one, "", inInfo(one));
         }
-        faultIs("2AD7B1 0", 5, ElementFiles.IN_SEGMENT + 5, inInfo("2AD7B1 81 00"));
-        byte[] info = ElementFiles.INFO;
+        faultIs("2AD7B1 0", 5, IN_SEGMENT + 5, inInfo("2AD7B1 81 00"));
+        byte[] info = INFO;
         reads("INFO behind TRACKS", "100:AABB", HEAD, segment(TRACKS, info, CLUSTER));
         reads("no INFO", "100:AABB", HEAD, segment(TRACKS, CLUSTER));
     }
@@ -272,24 +250,24 @@ public final class ElementsReadingTest {
     private static void trackElements() {
         Checks.of(8, "D7 (UINT 1 to 126; NUMBER) and 83 (UINT 2) once, 86 (a byte at least) once, "
                 + "73C5 (UINT, 1 at least) and 9C (UINT 0 or 1) at most once");
-        byte[] number = ElementFiles.NUMBER;
-        byte[] type = ElementFiles.TYPE;
-        byte[] codec = ElementFiles.CODEC;
+        byte[] number = NUMBER;
+        byte[] type = TYPE;
+        byte[] codec = CODEC;
         String[] right = {"", "73C5 81 01", "73C5 88 3FFFFFFFFFFFFFFF", "9C 81 00", "9C 81 01", "9C 80",
             "73C5 82 0100 9C 80"};
         for (String one : right) {
-            reads(one, "", HEAD, segment(ElementFiles.tracks(bytes(one), codec, number, type)));
+            reads(one, "", HEAD, segment(tracks(bytes(one), codec, number, type)));
         }
-        reads("NUMBER 126", "", HEAD, segment(ElementFiles.tracks(bytes("D7 81 7E"), type, codec)));
+        reads("NUMBER 126", "", HEAD, segment(tracks(bytes("D7 81 7E"), type, codec)));
         reads("86 of 8 bytes and more", "", HEAD,
-                segment(ElementFiles.tracks(number, type, bytes("86 89 'A_VORBIS_'"))));
+                segment(tracks(number, type, bytes("86 89 'A_VORBIS_'"))));
         String[] wrong = {"D7 80", "D7 81 00", "D7 81 7F", "D7 82 0101", "D7 89 000000000000000001", "83 80",
             "83 81 01",
             "83 81 03", "86 80", "73C5 80", "73C5 81 00", "73C5 88 4000000000000000", "9C 81 02", "9C 81 FF",
             "9C 89 000000000000000000"};
         for (String one : wrong) {
-            faultIs(one, 5, ElementFiles.IN_SEGMENT + 7, HEAD,
-                    segment(ElementFiles.tracks(bytes(one), number, type, codec)));
+            faultIs(one, 5, IN_SEGMENT + 7, HEAD,
+                    segment(tracks(bytes(one), number, type, codec)));
         }
     }
 
@@ -304,36 +282,36 @@ public final class ElementsReadingTest {
         }
         String[] wrong = {"9B 89 000000000000000000", "9B 88 4000000000000000", "9B 88 FFFFFFFFFFFFFFFF"};
         for (String one : wrong) {
-            faultIs(one, 5, ElementFiles.FIRST_BLOCK + 2, HEAD,
+            faultIs(one, 5, FIRST_BLOCK + 2, HEAD,
                     segment(TRACKS, cluster(element("A0", bytes(one), block))));
         }
     }
 
     private static void unknownSegment() {
         Checks.of(8, "SIZE may be UNKNOWN of SEGMENT (it goes to the file's end)");
-        StreamRemuxer x = reads("SEGMENT", "100:AABB", HEAD, ElementFiles.OPEN_SEGMENT, TRACKS, CLUSTER, VOID);
+        StreamRemuxer x = reads("SEGMENT", "100:AABB", HEAD, OPEN_SEGMENT, TRACKS, CLUSTER, VOID);
         Checks.due("CLUSTERS", x.count(5), 1);
-        byte[] file = Checks.join(HEAD, ElementFiles.OPEN_SEGMENT, TRACKS, CLUSTER);
+        byte[] file = Checks.join(HEAD, OPEN_SEGMENT, TRACKS, CLUSTER);
         Checks.load(x, Checks.join(file, CLUSTER));
         Checks.due("less than the tape has", x.readElements(file.length), 1);
         faultIs("an element beyond the file", 1, file.length - CLUSTER.length, Arrays.copyOf(file, file.length - 1));
-        faultIs("TRACKS are missing", 7, HEAD.length, HEAD, ElementFiles.OPEN_SEGMENT);
+        faultIs("TRACKS are missing", 7, HEAD.length, HEAD, OPEN_SEGMENT);
         faultIs("HEAD in it", 2, file.length, file, HEAD);
         faultIs("SEGMENT in it", 2, file.length, file, segment(TRACKS));
     }
 
     private static void unknownClusters() {
         Checks.of(8, "and of CLUSTERS (up to the next ELEMENT 1F43B675, or the SEGMENT's end) alone");
-        byte[] open = Checks.join(ElementFiles.OPEN_CLUSTER, TIME, BLOCK);
-        byte[] later = Checks.join(ElementFiles.OPEN_CLUSTER, bytes("E7 81 65"), VOID, BLOCK, BLOCK);
+        byte[] open = Checks.join(OPEN_CLUSTER, TIME, BLOCK);
+        byte[] later = Checks.join(OPEN_CLUSTER, bytes("E7 81 65"), VOID, BLOCK, BLOCK);
         StreamRemuxer x = reads("three", "100:AABB 101:AABB 101:AABB 100:AABB", HEAD,
                 segment(TRACKS, open, later, CLUSTER));
         Checks.due("CLUSTERS", x.count(5), 3);
         Checks.due("blocks", x.count(6), 4);
-        reads("in a SEGMENT of UNKNOWN SIZE", "100:AABB 100:AABB 101:AABB 101:AABB", HEAD, ElementFiles.OPEN_SEGMENT,
+        reads("in a SEGMENT of UNKNOWN SIZE", "100:AABB 100:AABB 101:AABB 101:AABB", HEAD, OPEN_SEGMENT,
                 TRACKS, CLUSTER, open, later);
         reads("a VOID behind SEGMENT", "100:AABB", HEAD, segment(TRACKS, open), VOID);
-        reads("nothing in it but E7", "", HEAD, segment(TRACKS, ElementFiles.OPEN_CLUSTER, TIME));
+        reads("nothing in it but E7", "", HEAD, segment(TRACKS, OPEN_CLUSTER, TIME));
         byte[] file = Checks.join(HEAD, segment(TRACKS, open));
         faultIs("a block behind SEGMENT", 2, file.length, file, BLOCK);
         faultIs("a CLUSTER behind SEGMENT", 2, file.length, file, CLUSTER);
@@ -353,7 +331,7 @@ public final class ElementsReadingTest {
         for (String one : others) {
             blockIsWrong("NUMBER " + one, one + "0000 00 11");
         }
-        byte[] last = ElementFiles.tracks(bytes("D7 81 7E"), ElementFiles.TYPE, ElementFiles.CODEC);
+        byte[] last = tracks(bytes("D7 81 7E"), TYPE, CODEC);
         reads("NUMBER 126", "100:", HEAD, segment(last, cluster(bytes("A3 84 FE 0000 00"))));
         reads("NUMBER 126 of two bytes", "100:", HEAD, segment(last, cluster(bytes("A3 85 407E 0000 00"))));
     }
@@ -372,10 +350,10 @@ public final class ElementsReadingTest {
         blockIsWrong("-101", "81 FF9B 00");
         blockIsWrong("-32,768", "81 8000 00");
         reads("32,768 less 32,768", "0:", timedFile("E7 82 8000", "81 8000 00"));
-        faultIs("32,767 less 32,768", 5, ElementFiles.IN_CLUSTER + 4, timedFile("E7 82 7FFF", "81 8000 00"));
+        faultIs("32,767 less 32,768", 5, IN_CLUSTER + 4, timedFile("E7 82 7FFF", "81 8000 00"));
         reads("the last TIME", "1099511627775:", timedFile("E7 85 FFFFFFFFFE", "81 0001 00"));
-        faultIs("one above it", 5, ElementFiles.IN_CLUSTER + 7, timedFile("E7 85 FFFFFFFFFE", "81 0002 00"));
-        faultIs("32,767 above it", 5, ElementFiles.IN_CLUSTER + 7, timedFile("E7 85 FFFFFFFFFF", "81 7FFF 00"));
+        faultIs("one above it", 5, IN_CLUSTER + 7, timedFile("E7 85 FFFFFFFFFE", "81 0002 00"));
+        faultIs("32,767 above it", 5, IN_CLUSTER + 7, timedFile("E7 85 FFFFFFFFFF", "81 7FFF 00"));
         reads("the last TIME less 1", "1099511627774:", timedFile("E7 85 FFFFFFFFFF", "81 FFFF 00"));
     }
 
@@ -387,7 +365,7 @@ public final class ElementsReadingTest {
         String[] wrong = {"E7 86 010000000000", "E7 89 000000000000000000", "E7 88 FFFFFFFFFFFFFFFF",
             "E7 88 0000010000000000", "E7 88 3FFFFFFFFFFFFFFF"};
         for (String one : wrong) {
-            faultIs(one, 5, ElementFiles.IN_CLUSTER, timedFile(one, "81 0000 00"));
+            faultIs(one, 5, IN_CLUSTER, timedFile(one, "81 0000 00"));
         }
         reads("each CLUSTER has its own", "100:AABB 7: 100:AABB", HEAD, segment(TRACKS, CLUSTER,
                 element("1F43B675", bytes("E7 81 05"), bytes("A3 84 81 0002 00")), CLUSTER));
@@ -404,12 +382,12 @@ public final class ElementsReadingTest {
             if (mayBeOfBoth) {
                 reads(told, list, simple);
             } else {
-                faultIs(told, 5, ElementFiles.FIRST_BLOCK, simple);
+                faultIs(told, 5, FIRST_BLOCK, simple);
             }
             if (mayBeOfBoth && (bits & 0x81) == 0) {
                 reads(told + " of A1", list, grouped);
             } else {
-                faultIs(told + " of A1", 5, ElementFiles.FIRST_BLOCK + 2, grouped);
+                faultIs(told + " of A1", 5, FIRST_BLOCK + 2, grouped);
             }
         }
     }
@@ -498,12 +476,12 @@ public final class ElementsReadingTest {
     /** Nothing of an earlier reading counts in a later one, with a FAULT or without. */
     private static void readingAgain() {
         Checks.of(8, "Likewise as elements.");
-        byte[] last = ElementFiles.tracks(bytes("D7 81 7E"), ElementFiles.TYPE, ElementFiles.CODEC);
+        byte[] last = tracks(bytes("D7 81 7E"), TYPE, CODEC);
         byte[] group = element("A0", bytes("A1 84 81 0000 00"), bytes("00"));
         byte[][] earlier = {
             WHOLE, new byte[1], new byte[0], HEAD, Checks.join(HEAD, segment(last, cluster(bytes("A3 84 FE 0000 00")))),
             Checks.join(HEAD, segment(TRACKS, cluster(BLOCK, group))), Checks.join(HEAD, segment(INFO_THRICE)),
-            Checks.join(HEAD, segment(TRACKS, ElementFiles.OPEN_CLUSTER, TIME, BLOCK, bytes("00"))),
+            Checks.join(HEAD, segment(TRACKS, OPEN_CLUSTER, TIME, BLOCK, bytes("00"))),
             Checks.join(HEAD, segment(TRACKS, cluster(bytes("A3 85 81 0000 04 3F A3 84 81 0000 00")))),
         };
         for (byte[] one : earlier) {

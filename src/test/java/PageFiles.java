@@ -1,7 +1,8 @@
-/** Pages made by hand, as the document tells them. */
-final class PageFiles {
-    private PageFiles() {
-    }
+/** Pages made by hand, as the document tells them, for the tests that read or write them. */
+class PageFiles {
+    static final long LAST_TIME = (1L << 40) - 1;
+    static final int MIN = Integer.MIN_VALUE;
+    static final int MAX = Integer.MAX_VALUE;
 
     /** The SUM, bit by bit. */
     static int sumOf(byte[] page) {

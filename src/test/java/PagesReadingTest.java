@@ -1,10 +1,7 @@
 import java.util.Arrays;
 
 /** Promise 7: pages read, each FAULT and its place. */
-public final class PagesReadingTest {
-    private static final long LAST_TIME = (1L << 40) - 1;
-    private static final int MIN = Integer.MIN_VALUE;
-    private static final int MAX = Integer.MAX_VALUE;
+public final class PagesReadingTest extends PageFiles {
     private static final int[] NINE = {255, 255, 255, 255, 255, 255, 255, 255, 255};
     private static final int[] BYTES_BEHIND = {0x00, 0x4F, 0xFF};
 
@@ -32,10 +29,6 @@ public final class PagesReadingTest {
         firstPageWithFault();
         readingAgain();
         Checks.end(7);
-    }
-
-    private static byte[] page(int flags, long time, int serial, int number, int... segments) {
-        return PageFiles.page(flags, time, serial, number, segments);
     }
 
     /** What stands on the tape behind the file must not count. */
@@ -145,9 +138,9 @@ public final class PagesReadingTest {
         byte[] second = page(4, 5, 1, 1, 1);
         readsWith("the second one's last byte", 1, first.length, first, Arrays.copyOf(second, second.length - 1));
         readsWith("the second one's table", 1, first.length, first, Arrays.copyOf(second, 27));
-        readsWith("MARK ahead of it", 2, 0, PageFiles.changed(Arrays.copyOf(whole, 29), 0, 0));
-        readsWith("version ahead of it", 3, 0, PageFiles.changed(Arrays.copyOf(whole, 29), 4, 1));
-        readsWith("FLAGS ahead of it", 3, 0, PageFiles.changed(Arrays.copyOf(whole, 29), 5, 8));
+        readsWith("MARK ahead of it", 2, 0, changed(Arrays.copyOf(whole, 29), 0, 0));
+        readsWith("version ahead of it", 3, 0, changed(Arrays.copyOf(whole, 29), 4, 1));
+        readsWith("FLAGS ahead of it", 3, 0, changed(Arrays.copyOf(whole, 29), 5, 8));
         byte[] open = page(2, -1, 1, 0, new int[255]);
         readsWith("255 segments, one is missing", 1, 0, Arrays.copyOf(open, 281));
     }
@@ -166,8 +159,8 @@ public final class PagesReadingTest {
         byte[] first = page(2, 5, 1, 0, 2);
         for (int k = 0; k < 4; k++) {
             byte[] other = page(4, 5, 1, 1, 2);
-            readsWith("byte " + k, 2, 0, PageFiles.changed(first, k, first[k] ^ 0x20));
-            readsWith("byte " + k + " of page 1", 2, first.length, first, PageFiles.changed(other, k, 0));
+            readsWith("byte " + k, 2, 0, changed(first, k, first[k] ^ 0x20));
+            readsWith("byte " + k + " of page 1", 2, first.length, first, changed(other, k, 0));
         }
         readsWith("27 zeros", 2, 0, new byte[27]);
     }
@@ -178,13 +171,13 @@ public final class PagesReadingTest {
         byte[] last = page(4, 5, 1, 1, 2);
         int[] octets = {1, 128, 255};
         for (int octet : octets) {
-            readsWith("version " + octet, 3, 0, PageFiles.changed(first, 4, octet));
-            readsWith("version " + octet, 3, first.length, first, PageFiles.changed(last, 4, octet));
+            readsWith("version " + octet, 3, 0, changed(first, 4, octet));
+            readsWith("version " + octet, 3, first.length, first, changed(last, 4, octet));
         }
         int[] flags = {8, 14, 16, 128, 255};
         for (int octet : flags) {
-            readsWith("FLAGS " + octet, 3, 0, PageFiles.changed(first, 5, octet));
-            readsWith("FLAGS " + octet, 3, first.length, first, PageFiles.changed(last, 5, octet));
+            readsWith("FLAGS " + octet, 3, 0, changed(first, 5, octet));
+            readsWith("FLAGS " + octet, 3, first.length, first, changed(last, 5, octet));
         }
         readsWith("FLAGS 7 are none of FORM", 6, 0, page(7, 5, 1, 0, 2));
     }
@@ -356,7 +349,7 @@ public final class PagesReadingTest {
         bad[22] ^= 1;
         readsWith("SHORT by its bytes ahead of SUM", 1, 0, Arrays.copyOf(bad, 29));
         readsWith("SUM ahead of ORDER", 4, 0, bad);
-        PageFiles.fixSum(bad);
+        fixSum(bad);
         readsWith("ORDER ahead of PACKET", 5, 0, bad);
         readsWith("PACKET ahead of TIME", 6, 0, page(7, -1, 1, 0, 2));
         readsWith("TIME ahead of MANY", 7, 0, page(6, -1, 1, 0, new int[65]));

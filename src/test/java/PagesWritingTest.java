@@ -1,11 +1,7 @@
 import java.util.Arrays;
 
 /** Promise 5: the LIST as pages. */
-public final class PagesWritingTest {
-    private static final long LAST_TIME = (1L << 40) - 1;
-    private static final int MIN = Integer.MIN_VALUE;
-    private static final int MAX = Integer.MAX_VALUE;
-
+public final class PagesWritingTest extends PageFiles {
     public static void main(String[] args) {
         emptyList();
         timeBelowOneAhead();
@@ -27,10 +23,6 @@ public final class PagesWritingTest {
         flags();
         pageNumbers();
         Checks.end(5);
-    }
-
-    private static byte[] page(int flags, long time, int serial, int number, int... segments) {
-        return PageFiles.page(flags, time, serial, number, segments);
     }
 
     /** Packets of bytes that are all 0. */
@@ -203,7 +195,7 @@ public final class PagesWritingTest {
         x.pages(0x01020304, 1, 1);
         Checks.due("TIME and SERIAL", Checks.out(x).substring(12, 36), "050403020100000004030201");
         Checks.due("SUM", Checks.out(x).substring(44, 52),
-                Checks.hex(PageFiles.little(PageFiles.sumOf(page(6, 0x0102030405L, 0x01020304, 0, 4)), 4)));
+                Checks.hex(little(sumOf(page(6, 0x0102030405L, 0x01020304, 0, 4)), 4)));
     }
 
     private static void lastSegments() {
@@ -232,8 +224,8 @@ public final class PagesWritingTest {
         StreamRemuxer x = new StreamRemuxer();
         Checks.addPacket(x, Checks.ramp(300, 0), 4);
         byte[] octets = Checks.ramp(300, 0);
-        writes(x, 3, 1, 1, PageFiles.pageOf(2, -1, 3, 0, Arrays.copyOf(octets, 255), 255),
-                PageFiles.pageOf(5, 4, 3, 1, Arrays.copyOfRange(octets, 255, 300), 45));
+        writes(x, 3, 1, 1, pageOf(2, -1, 3, 0, Arrays.copyOf(octets, 255), 255),
+                pageOf(5, 4, 3, 1, Arrays.copyOfRange(octets, 255, 300), 45));
     }
 
     private static void endsBySegments() {
