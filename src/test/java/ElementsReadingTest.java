@@ -30,6 +30,7 @@ public final class ElementsReadingTest extends ElementFiles {
         lacingByDifferences();
         timesOfPackets();
         readingAgain();
+        fullTape();
         Checks.end(8);
     }
 
@@ -63,9 +64,12 @@ public final class ElementsReadingTest extends ElementFiles {
     }
 
     private static void blockIsWrong(String what, String block) {
-        faultIs(what, 5, FIRST_BLOCK, HEAD, segment(TRACKS, cluster(element("A3", bytes(block)))));
-        faultIs(what + ", A1", 5, FIRST_BLOCK + 2, HEAD,
-                segment(TRACKS, cluster(element("A0", element("A1", bytes(block))))));
+        byte[] simple = element("A3", bytes(block));
+        byte[] file = Checks.join(HEAD, segment(TRACKS, cluster(simple)));
+        faultIs(what, 5, file.length - simple.length, file);
+        byte[] grouped = element("A1", bytes(block));
+        file = Checks.join(HEAD, segment(TRACKS, cluster(element("A0", grouped))));
+        faultIs(what + ", A1", 5, file.length - grouped.length, file);
     }
 
     private static void refused() {
@@ -463,6 +467,10 @@ public final class ElementsReadingTest extends ElementFiles {
         for (String one : wrong) {
             blockIsWrong(one, "81 0000 " + one);
         }
+        blockIsWrong("UNKNOWN, though it would come out", "81 0000 06 02 DA FF" + "00".repeat(300));
+        blockIsWrong("a wide UNKNOWN one", "81 0000 06 02 DA 7FFF" + "00".repeat(300));
+        readsBlock("the highest known one", "100:" + "00".repeat(90) + " -1:" + "00".repeat(153) + " -1:",
+                "81 0000 06 02 DA FE" + "00".repeat(243));
     }
 
     private static void timesOfPackets() {
@@ -494,6 +502,26 @@ public final class ElementsReadingTest extends ElementFiles {
             x.readElements(Checks.load(x, one));
             x.readElements(Checks.load(x, Checks.join(HEAD, segment(TRACKS, element("1F43B675", BLOCK)))));
             Checks.due("a TIME of earlier is none", x.wrong(0), 7);
+            x.readElements(Checks.load(x, one));
+            x.readElements(Checks.load(x, Checks.join(HEAD, segment(element("1654AE6B", TRACK, CLUSTER), CLUSTER))));
+            Checks.due("a CLUSTER in TRACKS", x.wrong(0), 2);
+            Checks.due("its place", x.wrong(1), BEHIND_TRACKS);
         }
+    }
+
+    /** As many elements as a tape can hold. */
+    private static void fullTape() {
+        Checks.of(8, "Likewise as elements.");
+        byte[] begin = Checks.join(HEAD, OPEN_SEGMENT, TRACKS, OPEN_CLUSTER, bytes("E7 82 0064"));
+        byte[] voids = bytes("EC80".repeat((6000 - begin.length) / 2));
+        Checks.due("a full tape", begin.length + voids.length, 6000);
+        StreamRemuxer x = reads("6,000 bytes", "", begin, voids);
+        Checks.due("CLUSTERS", x.count(5), 1);
+        byte[] open = Checks.join(HEAD, OPEN_SEGMENT, TRACKS);
+        byte[] clusters = bytes("1F43B675 FF E780".repeat((6000 - open.length) / 7));
+        x = reads("CLUSTERS all over", "", open, clusters);
+        Checks.due("CLUSTERS", x.count(5), clusters.length / 7);
+        byte[] shifted = Checks.join(begin, bytes("EC8100"), Arrays.copyOf(voids, voids.length - 4), bytes("EC"));
+        faultIs("a SIZE beyond byte 6,000", 1, 5999, shifted);
     }
 }

@@ -227,6 +227,13 @@ public final class ElementsWritingTest {
         writes(x, "0 1 4 k", file(false, false,
                 cluster("E78101" + block + "A384 81000180 A384 81000280 A384 81000380")));
         writes(x, "2 2 1 k", file(false, true, cluster("E78101 A385 8100008401") + cluster("E78103 A385 8100008401")));
+        StreamRemuxer five = withPackets("1:", "2:", "3:", "4:", "5:");
+        String two = block + "A384 81000180";
+        writes(five, "0 1 2 k", file(false, false, cluster("E78101" + two) + cluster("E78103" + two)
+                + cluster("E78105" + block)));
+        StreamRemuxer apart = withPackets("1:", "2:", "40000:", "40001:", "40002:");
+        writes(apart, "0 1 3 k", file(false, false, cluster("E78101" + two)
+                + cluster("E7829C40" + two + "A384 81000280")));
         StreamRemuxer y = withSizes(new int[21]);
         writes(y, "0 8 20 k", file(false, false,
                 cluster("E78100" + block.repeat(20)) + cluster("E78100" + block)));

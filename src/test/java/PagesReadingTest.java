@@ -28,6 +28,7 @@ public final class PagesReadingTest extends PageFiles {
         firstFaultOfPage();
         firstPageWithFault();
         readingAgain();
+        fullTape();
         Checks.end(7);
     }
 
@@ -385,5 +386,19 @@ public final class PagesReadingTest extends PageFiles {
                 Checks.due("FAULT", x.wrong(0), 0);
             }
         }
+    }
+
+    /** As many pages as a tape can hold. */
+    private static void fullTape() {
+        byte[][] pages = new byte[222][];
+        for (int number = 0; number < pages.length; number++) {
+            int flags = (number == 0 ? 2 : 0) | (number == 221 ? 4 : 0);
+            pages[number] = page(flags, -1, 1, number);
+        }
+        reads("222 pages", 0, pages);
+        pages[221] = page(4, 5, 1, 221, 1, 2, 0);
+        StreamRemuxer x = reads("6,000 bytes", 3, pages);
+        Checks.due("a full tape", Checks.join(pages).length, 6000);
+        Checks.due("LIST", Checks.list(x), "-1:DD -1:E4EB 5:");
     }
 }
