@@ -329,8 +329,8 @@ public final class ElementsFaultTest extends ElementFiles {
 
     private static void valueOfShortBlocks() {
         Checks.of(8, "a block that is too short, or whose sizes don't come out");
-        String[] wrong = {"", "81", "81 00", "81 0000", "40", "4001", "4001 0000", "01", "81 0000 02", "81 0000 04", "81 0000 06",
-            "81 0000 02 01", "81 0000 06 01 40", "81 0000 04 01 05", "81 0000 06 02 81 BD 05 05"};
+        String[] wrong = {"", "81", "81 00", "81 0000", "40", "4001", "4001 0000", "01", "81 0000 02", "81 0000 04",
+            "81 0000 06", "81 0000 02 01", "81 0000 06 01 40", "81 0000 04 01 05", "81 0000 06 02 81 BD 05 05"};
         for (String one : wrong) {
             byte[] simple = element("A3", bytes(one));
             byte[] grouped = element("A0", element("A1", bytes(one)));
